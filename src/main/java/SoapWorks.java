@@ -231,7 +231,7 @@ public final class SoapWorks {
     public int steps(int kind, int other) {
         if (!plan.isKind(kind) || !plan.isKind(other)) return NONE;
         int reached = 1 << kind;
-        for (int n = 0; n <= MOST_KINDS; n++) {
+        for (int n = 0; n < MOST_KINDS; n++) {
             if ((reached >> other & 1) == 1) return n;
             reached |= plan.madeOf(reached);
         }
@@ -1179,8 +1179,8 @@ public final class SoapWorks {
     }
 
     /**
-     * The vat as it was before each ACT that can be undone, then (a line for the vat as it is, filled
-     * when it is left), then as it was behind each that can be redone.
+     * The vat as it was before each ACT that can be undone, then as it is (a line that is filled when
+     * an ACT is taken back), then as it was behind each ACT that can be redone.
      */
     private static final class Acts {
         private static final int MOST = 40;
@@ -1222,7 +1222,6 @@ public final class SoapWorks {
 
         boolean doAgain(Vat now) {
             if (here == last) return false;
-            now.save(lines, here);
             here++;
             now.load(lines, here);
             return true;
@@ -1267,12 +1266,13 @@ public final class SoapWorks {
         int riseIf(Plan plan, Vat now, int who, int most) {
             ahead.copy(now);
             plan.tell(ahead, who);
+            boolean changes = true;
             for (int n = 1; n <= most; n++) {
-                boolean changed = plan.boilRules(ahead.much);
+                if (changes) changes = plan.boilRules(ahead.much);
                 ahead.day++;
                 if (plan.isRisen(ahead)) return n;
                 // In a vat at rest nothing but the day goes on.
-                if (!changed && !plan.rises.hasDay) return NONE;
+                if (!changes && !plan.rises.hasDay) return NONE;
             }
             return NONE;
         }

@@ -9,6 +9,7 @@ public final class ActsTest {
         alikeKinds();
         scumIsDrawn();
         itIsOutInTheStreet();
+        allDaysAreGone();
         basinsWash();
         kindsAreSwept();
         actsAreUndone();
@@ -163,6 +164,22 @@ public final class ActsTest {
         CHECK.due("boil()", z.boil(), 1);
     }
 
+    /** More calls than an object is used for; the limit is told all the same. */
+    private static void allDaysAreGone() {
+        SoapWorks x = CHECK.of("kind a;person p has a 5;rises 0;");
+        for (int day = 1; day <= 999; day++) x.boil();
+        CHECK.due("about(7)", x.about(7), 999);
+        int seed = x.about(8);
+        CHECK.due("boil()", x.boil(), -1);
+        CHECK.due("about(7)", x.about(7), 999);
+        CHECK.due("about(8)", x.about(8), seed);
+        CHECK.due("undo()", x.undo(), true);
+        CHECK.due("about(7)", x.about(7), 998);
+        CHECK.due("boil()", x.boil(), 0);
+        x.confess(0);
+        CHECK.due("will(0, 60, 0) beyond the last day", x.will(0, 60, 0), 5);
+    }
+
     private static void basinsWash() {
         SoapWorks x = CHECK.of("kind a;kind b;person p has a 5 b 2;basin m wants a 3 b 1;basin n wants b 2;"
                 + "basin o wants a 3;basin q wants a 2;");
@@ -180,6 +197,13 @@ public final class ActsTest {
         CHECK.due("wash(3): all there is", x.wash(3), 1);
         CHECK.vat(x, 0, 1);
         CHECK.due("about(5)", x.about(5), 0b1001);
+        SoapWorks five = CHECK.of("kind a;kind b;kind c;kind d;kind e;person p has a 5 b 5 c 5 d 5 e 5;"
+                + "basin m wants e 5 a 1;basin n wants a 4 b 5;basin o wants a 1;basin q wants c 2 d 3;");
+        five.confess(0);
+        CHECK.due("wash(0)", five.wash(0), 19);
+        CHECK.vat(five, 4, 5, 5, 5, 0);
+        CHECK.due("wash(3)", five.wash(3), 14);
+        CHECK.vat(five, 4, 5, 3, 2, 0);
         // Enough of one KIND and not of the other.
         SoapWorks y = CHECK.of("kind a;kind b;person p has a 5 b 2;basin m wants a 3 b 3;basin n wants b 1 a 6;");
         y.confess(0);

@@ -95,6 +95,8 @@ public final class AheadTest {
         SoapWorks scum = told("kind a;person p has a 5;scum 100;rises all>4;", 0);
         CHECK.due("rise()", scum.rise(), 1);
         CHECK.due("boil()", scum.boil(), 0);
+        // At rest from the second BOILING on, till a day comes.
+        CHECK.due("rise()", told("kind a;kind b;person p has a 9;boils a a into b 9;rises day=7 and most=4;", 0).rise(), 7);
         // What it was before the next BOILING does not count.
         CHECK.due("rise()", told("kind a;person p has a 9;boils a a into a 9;rises all>8;", 0).rise(), -1);
     }
@@ -176,6 +178,9 @@ public final class AheadTest {
         // By one too many it is not RISEN any more; only who makes it so counts.
         powers(CHECK.of(FOUR + "rises all=5;"), 0, 1, 1, 0);
         powers(CHECK.of(FOUR + "rises tellers=2;"), 3, 3, 3, 3);
+        powers(CHECK.of(FOUR + "rises tellers=4;"), 1, 1, 1, 1);
+        powers(CHECK.of(FOUR + "rises all=17 or all=3;"), 2, 1, 1, 1);
+        powers(CHECK.of(FOUR + "rises day>1 or tellers>0;"), 1, 1, 1, 1);
         powers(CHECK.of(FOUR + "rises 1;"), 0, 0, 0, 0);
         powers(CHECK.of(FOUR + "rises day>1 and all>4;"), 0, 0, 0, 0);
         // Behind the BOILING: 8 become 4, 9 become 5.

@@ -86,6 +86,15 @@ public final class FormulaTest {
         worth("not 0+1", 0);
         worth("1 and not 0", 1);
         worth("2<3 and 3<2 or 4=4", 1);
+        // As long as one can be: thirty units with seven nots each, of which the last one alone is so.
+        String no = "not ".repeat(7);
+        risen((no + "1 or ").repeat(29) + no + "0", true);
+        risen((no + "1 or ").repeat(29) + no + "1", false);
+        risen((no + "0 and ").repeat(29) + no + "1", false);
+        // And as much of it waiting for its right side as can be.
+        String waiting = "0 or 1 and 1<1+1*(".repeat(4);
+        risen(waiting + "0 or 1 and 1<1+1*1" + ")".repeat(4), true);
+        risen(waiting + "0 or 1 and 1<1+0*1" + ")".repeat(4), false);
     }
 
     private static void numbersWrap() {

@@ -85,6 +85,23 @@ public final class TapeTest {
         CHECK.due("about(1)", x.about(1), 2);
         CHECK.due("about(13): empty then", x.about(13), 0);
         CHECK.due("end(1)", x.end(1), -1);
+        // What was behind the end is not read, be it the rest of a word, of a number, or a letter behind one.
+        cut("kind ab", 6, 2, 6);
+        cut("kind abcdefghi", 13, 2, 13);
+        cut("scum 1234", 6, 2, 6);
+        cut("scum 100000", 8, 2, 8);
+        cut("scum 1a", 6, 2, 6);
+        cut("scum 1 ", 6, 2, 6);
+        cut("scum 1;$", 7, 0, -1);
+    }
+
+    private static void cut(String text, int n, int fault, int place) {
+        SoapWorks x = new SoapWorks();
+        Check.put(x, text.getBytes(java.nio.charset.StandardCharsets.ISO_8859_1));
+        CHECK.due("end(" + n + ")", x.end(n), n);
+        CHECK.due("works() of '" + text + "' up to " + n, x.works(), fault == 0 ? 0 : -1);
+        CHECK.due("fault(0) of '" + text + "' up to " + n, x.fault(0), fault);
+        CHECK.due("fault(1) of '" + text + "' up to " + n, x.fault(1), place);
     }
 
     /** A works in which something of every sort has been done. */
@@ -95,7 +112,7 @@ public final class TapeTest {
         x.boil();
         x.confess(1);
         x.undo();
-        x.image(1);
+        for (int box = 0; box < 3; box++) x.image(box);
         x.later(5);
         x.seen(0, 0, 2, true);
         x.order(0);
@@ -118,7 +135,7 @@ public final class TapeTest {
         CHECK.due("mind(0, 0)", x.mind(0, 0), 2);
         CHECK.due("undo()", x.undo(), false);
         CHECK.due("redo()", x.redo(), false);
-        CHECK.due("back(1)", x.back(1), -1);
+        for (int box = 0; box < 3; box++) CHECK.due("back(" + box + ")", x.back(box), -1);
         CHECK.due("untell(0)", x.untell(0), false);
         CHECK.due("lies(0)", x.lies(0), -2);
         CHECK.due("fits(5)", x.fits(5), 31);
