@@ -3,6 +3,7 @@ import java.nio.charset.StandardCharsets;
 /** What every test uses: it counts the answers that are not the ones due, and puts texts on a TAPE. */
 final class Check {
     private final String test;
+    private String within = "";
     private int wrong;
     private int asked;
 
@@ -10,11 +11,16 @@ final class Check {
         this.test = test;
     }
 
+    /** Where the answers that follow belong, told with those that are wrong. */
+    void within(String place) {
+        within = place.isEmpty() ? "" : place + ": ";
+    }
+
     void due(String call, int got, int want) {
         asked++;
         if (got == want) return;
         wrong++;
-        System.out.println(test + ": " + call + " answered " + got + ", due is " + want);
+        System.out.println(test + ": " + within + call + " answered " + got + ", due is " + want);
     }
 
     void due(String call, boolean got, boolean want) {
@@ -46,7 +52,7 @@ final class Check {
         SoapWorks x = new SoapWorks();
         if (tell(x, text) < 0) {
             wrong++;
-            System.out.println(test + ": '" + text + "' has fault " + x.fault(0) + " at " + x.fault(1));
+            System.out.println(test + ": " + within + "'" + text + "' has fault " + x.fault(0) + " at " + x.fault(1));
         }
         return x;
     }
