@@ -37,6 +37,7 @@ public final class TextEdgesTest {
     // ---- promises 1 to 5
 
     private void tape() {
+        terms("The constants: `NONE = -1`: There is none.", () -> CHECK.due("NONE", SoapWorks.NONE, -1));
         edges.edge("Promise 1: A new object", "An empty WORKS.", TextEdgesTest::aNewObject);
         edges.edge("Promise 2: feed", "Twenty bytes come behind those on the TAPE, of each number the highest first: how many there are",
                 TextEdgesTest::everyByteHasItsPlace);
@@ -280,6 +281,8 @@ public final class TextEdgesTest {
     private void tokens() {
         terms("A WORKS is a text of at most 1,600 bytes (empty at first)", TextEdgesTest::asLongAsATextCanBe);
         terms("works = {line}", TextEdgesTest::linesOrNone);
+        terms("line = kind NAME ; | person NAME has NAME N {NAME N} ; | boils NAME NAME into NAME N ; | basin NAME wants NAME N {NAME N} ;"
+                + " | rises e ; | scum N ; | draw N ;.", TextEdgesTest::linesOfEachSort);
         terms("words (a .. z, 8 at most)", TextEdgesTest::words);
         terms("N (1 to 4 digits)", TextEdgesTest::numbers);
         terms("signs ; ( ) < > = + - * / %", TextEdgesTest::signs);
@@ -311,6 +314,26 @@ public final class TextEdgesTest {
         CHECK.faulty(";", 2, 0);
         CHECK.faulty("draw 1;;", 2, 7);
         CHECK.faulty("draw 1", 2, 6);
+    }
+
+    /** Each without one of its TOKENS, and with one of them twice. */
+    private static void linesOfEachSort() {
+        String before = "kind a ; kind b ; ";
+        String[] lines = {"kind c ;", "person p has a 1 b 2 ;", "boils a b into a 1 ;", "basin p wants a 1 b 2 ;", "rises 1 ;", "scum 1 ;", "draw 1 ;"};
+        for (String line : lines) {
+            CHECK.sound(before + line, line.startsWith("person") ? 1 : 0);
+            String[] tokens = line.split(" ");
+            for (int left = 0; left < tokens.length; left++) {
+                StringBuilder without = new StringBuilder(before);
+                StringBuilder twice = new StringBuilder(before);
+                for (int i = 0; i < tokens.length; i++) {
+                    if (i != left) without.append(tokens[i]).append(' ');
+                    twice.append(tokens[i]).append(i == left ? " " + tokens[i] + " " : " ");
+                }
+                CHECK.due("works() of '" + without + "'", Check.tell(new SoapWorks(), without.toString()), -1);
+                CHECK.due("works() of '" + twice + "'", Check.tell(new SoapWorks(), twice.toString()), -1);
+            }
+        }
     }
 
     private static void words() {

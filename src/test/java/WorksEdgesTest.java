@@ -273,8 +273,82 @@ public final class WorksEdgesTest {
     // ---- promises 14 and 15
 
     private void undone() {
+        for (String promise : new String[] {"Promise 10: confess", "Promise 11: boil", "Promise 12: wash", "Promise 13: sweep"}) {
+            edges.edge(promise, "(An ACT.)", () -> anAct(promise));
+        }
+        edges.edge("Promise 14: undo", "UNDO: true", WorksEdgesTest::oneIsUndone);
         edges.edge("Promise 14: undo", "false if there is none.", this::nothingToUndo);
+        edges.edge("Promise 15: redo", "REDO: true", WorksEdgesTest::oneIsRedone);
         edges.edge("Promise 15: redo", "false if there is none.", this::nothingToRedo);
+    }
+
+    /** What it does can be undone and redone, and it is the only one. */
+    private static void anAct(String promise) {
+        SoapWorks x = CHECK.of("kind a;kind b;person p has a 6 b 2;person q has b 5;boils a b into a 1;basin m wants a 1;draw 9;");
+        x.confess(0);
+        x.image(0);
+        x.back(0);
+        int[] before = {6, 2, 1, 0, 0, 0, 9};
+        int[] then = before.clone();
+        switch (promise) {
+            case "Promise 10: confess" -> {
+                x.confess(1);
+                then = new int[] {6, 7, 3, 0, 0, 0, 9};
+            }
+            case "Promise 11: boil" -> {
+                x.boil();
+                then = new int[] {6, 1, 1, 0, 0, 1, 304};
+            }
+            case "Promise 12: wash" -> {
+                x.wash(0);
+                then = new int[] {5, 2, 1, 1, 0, 0, 9};
+            }
+            default -> {
+                x.sweep(1);
+                then = new int[] {6, 0, 1, 0, 0, 0, 9};
+            }
+        }
+        state(x, then);
+        CHECK.due("about(9)", x.about(9), 1);
+        CHECK.due("undo()", x.undo(), true);
+        state(x, before);
+        CHECK.due("about(9)", x.about(9), 0);
+        CHECK.due("about(10)", x.about(10), 1);
+        CHECK.due("redo()", x.redo(), true);
+        state(x, then);
+        CHECK.due("undo()", x.undo(), true);
+        CHECK.due("undo() of no other", x.undo(), false);
+        state(x, before);
+    }
+
+    private static void oneIsUndone() {
+        SoapWorks x = told(USED, 0, 1);
+        CHECK.due("undo()", x.undo(), true);
+        CHECK.due("about(4)", x.about(4), 1);
+        CHECK.due("undo()", x.undo(), true);
+        CHECK.due("about(4)", x.about(4), 0);
+        // A BOILING that changes nothing in the VAT is one, too.
+        SoapWorks empty = new SoapWorks();
+        empty.boil();
+        CHECK.due("undo()", empty.undo(), true);
+        CHECK.due("about(7)", empty.about(7), 0);
+        CHECK.due("about(8)", empty.about(8), 0);
+    }
+
+    private static void oneIsRedone() {
+        SoapWorks x = told(USED, 0, 1);
+        x.undo();
+        x.undo();
+        CHECK.due("redo()", x.redo(), true);
+        CHECK.due("about(4): that which was taken back last", x.about(4), 1);
+        CHECK.due("redo()", x.redo(), true);
+        CHECK.due("about(4)", x.about(4), 3);
+        SoapWorks empty = new SoapWorks();
+        empty.boil();
+        empty.undo();
+        CHECK.due("redo()", empty.redo(), true);
+        CHECK.due("about(7)", empty.about(7), 1);
+        CHECK.due("about(8)", empty.about(8), 71);
     }
 
     private void nothingToUndo() {
