@@ -252,10 +252,10 @@ public final class SoapWorks {
 
     public int nearest() {
         int best = NONE;
-        int least = Integer.MAX_VALUE;
+        int least = 0;
         for (int basin = 0; basin < plan.basins; basin++) {
             int lack = plan.lacking(now.much, basin);
-            if (isEased(basin) || lack >= least) continue;
+            if (isEased(basin) || best != NONE && lack >= least) continue;
             least = lack;
             best = basin;
         }
@@ -392,10 +392,10 @@ public final class SoapWorks {
         int fitting = sightings.fitting(plan, k);
         if (fitting == 0) return NONE;
         int best = NONE;
-        int fewest = Integer.MAX_VALUE;
+        int fewest = 0;
         for (int kind = 0; kind < plan.kinds; kind++) {
             int left = sightings.leftAtMost(fitting, boilings, kind);
-            if (left < fewest) {
+            if (best == NONE || left < fewest) {
                 fewest = left;
                 best = kind;
             }

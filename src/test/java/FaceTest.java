@@ -29,10 +29,22 @@ public final class FaceTest {
         "int ask(int,int,int)", "int image(int)", "int back(int)", "int about(int)"};
 
     public static void main(String[] args) throws IOException {
+        documentsFace(Files.readString(Path.of("../shared/DOC.md")));
         face();
         members();
         source(Files.readString(Path.of("src/main/java/SoapWorks.java")));
         CHECK.close();
+    }
+
+    /** The face that is held against the class is the document's, in its order. */
+    private static void documentsFace(String document) {
+        Matcher method = Pattern.compile("(?m)^    public (\\w+ \\w+\\(.*\\));$").matcher(document);
+        int i = 0;
+        for (; method.find(); i++) {
+            String told = method.group(1).replaceAll("(int|boolean) \\w+([,)])", "$1$2").replace(", ", ",");
+            CHECK.due("the document's " + told, i < FACE.length && told.equals(FACE[i]), true);
+        }
+        CHECK.due("the document's methods", i, FACE.length);
     }
 
     private static void face() {
@@ -111,7 +123,7 @@ public final class FaceTest {
         CHECK.due("no package", Pattern.compile("^package", Pattern.MULTILINE).matcher(bare).find(), false);
         Matcher library = Pattern.compile("\\b(Arrays|System|Math|Integer)\\.(\\w+)").matcher(bare);
         Set<String> allowed = Set.of("fill", "arraycopy", "min", "max", "bitCount", "numberOfTrailingZeros",
-                "numberOfLeadingZeros", "MAX_VALUE");
+                "numberOfLeadingZeros");
         while (library.find()) CHECK.due("library " + library.group(), allowed.contains(library.group(2)), true);
         shortMethods(text.split("\n", -1));
     }
